@@ -35,6 +35,8 @@ public final class RulerWorkbench {
     // A result is built here first, so that a call that throws changes nothing.
     private final MarkSet made;
     private final MarkSet turned;
+    private final Gaps gaps;
+    private final Gaps best;
     private final BitRow row;
     private final Spans[] spans;
     private final Tally tally;
@@ -45,6 +47,8 @@ public final class RulerWorkbench {
         saved = new UndoStack();
         made = new MarkSet();
         turned = new MarkSet();
+        gaps = new Gaps();
+        best = new Gaps();
         row = new BitRow();
         spans = new Spans[SETS];
         for (int i = 0; i < SETS; i++) {
@@ -346,10 +350,7 @@ public final class RulerWorkbench {
             return NONE;
         }
         int share = quotient(ordered, v - 1);
-        made.empty();
-        made.push(0);
-        tally.wipe();
-        if (!finishDifferenceSet(made, tally, k - 1, v, share)) {
+        if (!makeDifferenceSet(v, k, share)) {
             return NONE;
         }
         replace(to, v);
@@ -481,19 +482,21 @@ public final class RulerWorkbench {
 
     private void measureAll() {
         for (int set = 0; set < SETS; set++) {
-            spans[set].measure(now.sets[set]);
+            Spans here = measured(set);
+            here.clashes = here.distinct ? 0 : 1 << set;
+            for (int other = 0; other < set; other++) {
+                if (here.row.meets(spans[other].row)) {
+                    here.clashes |= 1 << other;
+                }
+            }
         }
     }
 
     /** Asks for measureAll first. */
     private boolean formFamily(int mask) {
-        row.wipe();
         for (int set = 0; set < SETS; set++) {
-            if ((mask >> set & 1) == 1) {
-                if (!spans[set].distinct || row.meets(spans[set].row)) {
-                    return false;
-                }
-                row.join(spans[set].row);
+            if ((mask >> set & 1) == 1 && (spans[set].clashes & mask) != 0) {
+                return false;
             }
         }
         return true;
@@ -566,43 +569,35 @@ public final class RulerWorkbench {
         return true;
     }
 
+    /**
+     * The first form has the mark 0, and so it is told by the gaps behind its marks;
+     * its gaps are the first ones, too. A shift only changes the gap that they begin with.
+     */
     private void makeCanonical(MarkSet set) {
         units.prepare(now.modulus);
-        made.empty();
+        best.count = 0;
         for (int i = 0; i < units.count; i++) {
-            turn(set, units.at(i), 0, turned);
-            // The first form has the mark 0, so one of the marks is shifted there.
-            for (int j = 0; j < turned.count; j++) {
-                if (made.count == 0 || comesFirst(j)) {
-                    takeFrom(j);
-                }
+            int t = units.at(i);
+            // The gaps for m - t are those for t in reverse.
+            if (t <= now.modulus - t) {
+                turn(set, t, 0, turned);
+                gaps.measure(turned, now.modulus);
+                takeBest();
+                gaps.reverse();
+                takeBest();
             }
         }
+        best.spillInto(made);
     }
 
-    /** Mark number i of the turned set when its mark number j is shifted to 0. */
-    private int shifted(int j, int i) {
-        int number = j + i;
-        return number < turned.count
-                ? turned.at(number) - turned.at(j)
-                : turned.at(number - turned.count) - turned.at(j) + now.modulus;
-    }
-
-    private boolean comesFirst(int j) {
-        for (int i = 1; i < turned.count; i++) {
-            int here = shifted(j, i);
-            int best = made.at(i);
-            if (here != best) {
-                return here < best;
+    private void takeBest() {
+        if (best.count == 0) {
+            best.takeFrom(gaps, gaps.firstRotation());
+        } else if (gaps.mayComeBefore(best)) {
+            int start = gaps.firstRotation();
+            if (gaps.comeBefore(start, best)) {
+                best.takeFrom(gaps, start);
             }
-        }
-        return false;
-    }
-
-    private void takeFrom(int j) {
-        made.empty();
-        for (int i = 0; i < turned.count; i++) {
-            made.push(shifted(j, i));
         }
     }
 
@@ -623,31 +618,33 @@ public final class RulerWorkbench {
     }
 
     private void makeOptimal(int n) {
-        boolean found = false;
+        made.empty();
+        made.push(0);
+        boolean found = n < 2;
         // n marks have n * (n - 1) / 2 differences, all different.
         for (int length = n * (n - 1) / 2; !found && length <= TOP_LENGTH; length++) {
-            made.empty();
-            made.push(0);
-            found = finishRuler(made, n - 1, length, 1L, 0L);
+            found = finishRuler(made, n - 2, length, 1L, 1L << length);
         }
     }
 
     /**
-     * Places the marks that are left, the last one at the length.
-     * Bit i of near tells a mark i below the last one, bit i of used the difference i.
+     * Places the inner marks that are left, and then the mark at the length.
+     * Bit i of near tells a mark i below the last one, bit i of used a difference that is there already.
      */
     private static boolean finishRuler(MarkSet ruler, int left, int length, long near, long used) {
         if (left <= 0) {
+            ruler.push(length);
             return true;
         }
         int last = ruler.greatest();
         // The gaps behind the next mark differ, so they need at least 1 + 2 + ... together.
-        int latest = length - left * (left - 1) / 2;
-        for (int next = left == 1 ? length : last + 1; next <= latest; next++) {
-            long fresh = near << (next - last);
-            if ((fresh & used) == 0L) {
+        int latest = length - left * (left + 1) / 2;
+        for (int next = last + 1; next <= latest; next++) {
+            long below = near << (next - last);
+            long above = 1L << (length - next);
+            if ((below & above) == 0L && ((below | above) & used) == 0L) {
                 ruler.push(next);
-                if (finishRuler(ruler, left - 1, length, fresh | 1L, used | fresh)) {
+                if (finishRuler(ruler, left - 1, length, below | 1L, used | below | above)) {
                     return true;
                 }
                 ruler.pop();
@@ -657,11 +654,11 @@ public final class RulerWorkbench {
     }
 
     private void makeSparse(int n) {
+        made.empty();
+        made.push(0);
         boolean found = false;
         long between = (1L << n) - 2L;
         for (int inner = 0; !found && inner < n; inner++) {
-            made.empty();
-            made.push(0);
             found = finishSparse(made, inner, n, 1L, between);
         }
     }
@@ -692,14 +689,23 @@ public final class RulerWorkbench {
         return false;
     }
 
+    private boolean makeDifferenceSet(int v, int k, int share) {
+        // Two marks of a difference set differ by 1, and a shift brings them to 0 and 1: so the first one has these.
+        made.empty();
+        made.push(0);
+        tally.wipe();
+        tally.countMark(made, 1, v, 1);
+        made.push(1);
+        return finishDifferenceSet(made, tally, k - 2, v, share);
+    }
+
     /** If no difference has more than its share when all marks stand, each one has just its share. */
     private static boolean finishDifferenceSet(MarkSet set, Tally counts, int left, int v, int share) {
         if (left <= 0) {
             return true;
         }
         for (int next = set.greatest() + 1; next <= v - left; next++) {
-            counts.countMark(set, next, v, 1);
-            if (counts.isAtMost(share, v)) {
+            if (counts.countMark(set, next, v, 1) <= share) {
                 set.push(next);
                 if (finishDifferenceSet(set, counts, left - 1, v, share)) {
                     return true;
@@ -795,6 +801,102 @@ public final class RulerWorkbench {
         }
     }
 
+    /** The gaps from each mark to the next one modulo a number, and so round to the first mark again. */
+    private static final class Gaps {
+        private final int[] gaps = new int[MOST_MARKS];
+        private int count = 0;
+
+        int at(int number) {
+            return number >= 0 && number < count ? gaps[number] : NONE;
+        }
+
+        int around(int number) {
+            return number < count ? at(number) : at(number - count);
+        }
+
+        void push(int gap) {
+            if (count < MOST_MARKS) {
+                gaps[count] = gap;
+                count++;
+            }
+        }
+
+        void measure(MarkSet set, int m) {
+            count = 0;
+            for (int i = 1; i < set.count; i++) {
+                push(set.at(i) - set.at(i - 1));
+            }
+            push(m - set.span());
+        }
+
+        void reverse() {
+            for (int i = 0, j = count - 1; i < j; i++, j--) {
+                int gap = gaps[i];
+                gaps[i] = gaps[j];
+                gaps[j] = gap;
+            }
+        }
+
+        /** Looks at two gaps of each rotation: this spares most searches for the first rotation. */
+        boolean mayComeBefore(Gaps other) {
+            int first = other.at(0);
+            int second = other.around(1);
+            for (int i = 0; i < count; i++) {
+                if (gaps[i] < first || gaps[i] == first && around(i + 1) <= second) {
+                    return true;
+                }
+            }
+            return false;
+        }
+
+        /** Where the lexicographically first rotation begins: i and j are the starts that may still be it. */
+        int firstRotation() {
+            int i = 0;
+            int j = 1;
+            int same = 0;
+            // Each step makes i + j + same greater.
+            for (int step = 0; step < 3 * MOST_MARKS && i < count && j < count && same < count; step++) {
+                int difference = around(i + same) - around(j + same);
+                if (difference == 0) {
+                    same++;
+                } else {
+                    // A start between one that has lost and the place where it lost loses, too.
+                    i += difference > 0 ? same + 1 : 0;
+                    j += difference < 0 ? same + 1 : 0;
+                    j += i == j ? 1 : 0;
+                    same = 0;
+                }
+            }
+            return Math.min(i, j);
+        }
+
+        boolean comeBefore(int start, Gaps other) {
+            for (int i = 0; i < count; i++) {
+                int difference = around(start + i) - other.at(i);
+                if (difference != 0) {
+                    return difference < 0;
+                }
+            }
+            return false;
+        }
+
+        void takeFrom(Gaps other, int start) {
+            count = 0;
+            for (int i = 0; i < other.count; i++) {
+                push(other.around(start + i));
+            }
+        }
+
+        void spillInto(MarkSet set) {
+            int mark = 0;
+            set.empty();
+            for (int i = 0; i < count; i++) {
+                set.push(mark);
+                mark += gaps[i];
+            }
+        }
+    }
+
     /** A set of numbers from 0 to 2000 without a limit on how many. */
     private static final class BitRow {
         private final long[] words = new long[ROW_WORDS];
@@ -838,12 +940,6 @@ public final class RulerWorkbench {
             return false;
         }
 
-        void join(BitRow other) {
-            for (int w = 0; w < ROW_WORDS; w++) {
-                words[w] |= other.words[w];
-            }
-        }
-
         void spillInto(MarkSet set) {
             set.empty();
             for (int w = 0; w < ROW_WORDS; w++) {
@@ -860,6 +956,8 @@ public final class RulerWorkbench {
     private static final class Spans {
         private final BitRow row = new BitRow();
         private boolean distinct = true;
+        // A mask of the sets that can't be in one family with this one; this one itself if it is no ruler.
+        private int clashes = 0;
 
         void measure(MarkSet set) {
             row.wipe();
@@ -911,10 +1009,12 @@ public final class RulerWorkbench {
             return d >= 0 && d < TOP_MODULUS ? counts[d] : 0;
         }
 
-        void bump(int d, int by) {
-            if (d >= 0 && d < TOP_MODULUS) {
-                counts[d] += by;
+        int bump(int d, int by) {
+            if (d < 0 || d >= TOP_MODULUS) {
+                return 0;
             }
+            counts[d] += by;
+            return counts[d];
         }
 
         void countCyclic(MarkSet set, int m) {
@@ -928,12 +1028,15 @@ public final class RulerWorkbench {
             }
         }
 
-        void countMark(MarkSet set, int next, int m, int by) {
+        /** Returns the greatest count that has changed. */
+        int countMark(MarkSet set, int next, int m, int by) {
+            int greatest = 0;
             for (int i = 0; i < set.count; i++) {
                 int d = next - set.at(i);
-                bump(d, by);
-                bump(m - d, by);
+                greatest = Math.max(greatest, bump(d, by));
+                greatest = Math.max(greatest, bump(m - d, by));
             }
+            return greatest;
         }
 
         boolean isAtMost(int most, int m) {

@@ -86,6 +86,7 @@ public final class ModulusTest {
         Check.index(x, "no set", () -> x.index(4));
         Check.index(x, "no set below", () -> x.index(-1));
         x.setModulus(4);
+        Check.same("0 1 modulo 4", x.index(1), RulerWorkbench.NONE);
         Check.same("0 1 2 3 modulo 4", x.index(0), 4);
     }
 
@@ -228,5 +229,10 @@ public final class ModulusTest {
         Check.put(x, 0, 3, 11);
         x.canonical(0, 0);
         Check.marks("canonical of 3 11 modulo 12", x, 0, 0, 4);
+        x.setModulus(11);
+        x.clear(0);
+        Check.put(x, 0, 0, 1, 2, 4);
+        x.canonical(0, 0);
+        Check.marks("canonical of a canonical form", x, 0, 0, 1, 2, 4);
     }
 }

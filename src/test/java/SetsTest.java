@@ -75,6 +75,9 @@ public final class SetsTest {
         Check.marks("all removed", x, 0);
         Check.same("remove is undoable", x.undo(), 3);
         Check.marks("undone remove", x, 0, 8);
+        x.add(0, 0);
+        Check.same("remove(0, 0)", x.remove(0, 0), 1);
+        Check.marks("the mark 0 is removed", x, 0, 8);
     }
 
     private static void clear() {

@@ -81,12 +81,12 @@ public final class UndoAndDigestTest {
     private static void digestOfMore() {
         RulerWorkbench x = Check.with(0, 1, 3);
         Check.put(x, 1, 0, 2, 4);
-        Check.put(x, 2, 50, 51);
+        Check.put(x, 2, 6, 7);
         x.setModulus(7);
         long due = mix(4, 7,
                 3, 0, 1, 3, 1, 3, 3, 1, 3,
                 3, 0, 2, 4, 0, 0, 2, -1, 2,
-                2, 50, 51, 1, 1, 1,
+                2, 6, 7, 1, 1, 1,
                 0, 1, 0, 0, -1, 6,
                 1, 1, 0, 0, 1, 0, 0, 0, 1, 1, 0, 0, 1, 0, 0, 0);
         Check.same("digest", x.digest(), due);
