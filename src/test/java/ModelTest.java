@@ -26,6 +26,7 @@ public final class ModelTest {
         }
         allSearches();
         allSmallSets();
+        canonicalOfFewGaps();
         wideModuli();
         Check.end("ModelTest");
     }
@@ -62,6 +63,27 @@ public final class ModelTest {
                 Check.same("small modulus", x.setModulus(m), y.setModulus(m));
                 Check.same("small canonical", x.canonical(0, 1), y.canonical(0, 1));
                 Check.same("small digest of " + bits + " modulo " + m, x.digest(), y.digest());
+            }
+        }
+    }
+
+    /** Gaps that are often equal, so that the forms begin alike for long. */
+    private static void canonicalOfFewGaps() {
+        Random random = new Random(9);
+        for (int i = 0; i < 6000; i++) {
+            RulerWorkbench x = new RulerWorkbench();
+            Model y = new Model();
+            int marks = 2 + random.nextInt(11);
+            int kinds = 2 + random.nextInt(4);
+            int m = 1 + random.nextInt(3);
+            for (int j = 0; j < marks; j++) {
+                Check.same("few gaps: add", x.add(0, m - 1), y.add(0, m - 1));
+                m += 1 + random.nextInt(kinds);
+            }
+            Check.same("few gaps: modulus", x.setModulus(m), y.setModulus(m));
+            Check.same("few gaps: canonical", x.canonical(0, 1), y.canonical(0, 1));
+            for (int j = 0; j < marks; j++) {
+                Check.same("few gaps " + i + ": mark", x.mark(1, j), y.mark(1, j));
             }
         }
     }
