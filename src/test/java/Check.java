@@ -19,6 +19,14 @@ final class Check {
         }
     }
 
+    static void text(String what, String got, String due) {
+        checked++;
+        if (!got.equals(due)) {
+            wrong++;
+            System.out.println(what + " answered " + got + ", due is " + due);
+        }
+    }
+
     static void yes(String what, boolean got) {
         same(what, got ? 1 : 0, 1);
     }
