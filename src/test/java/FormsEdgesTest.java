@@ -9,6 +9,7 @@ public final class FormsEdgesTest {
         canonicalOfFew();
         canonicalByTheLastChoice();
         canonicalOfMany();
+        canonicalOfEveryTurn();
         canonicalRefused();
         Check.end("FormsEdgesTest");
     }
@@ -65,6 +66,7 @@ public final class FormsEdgesTest {
         multipliers(sentence + "0 1 3 modulo 6: 1 alone", 1, 6, 0, 1, 3);
         multipliers(sentence + "0 1 3 modulo 7", 3, 7, 0, 1, 3);
         multipliers(sentence + "4 5 0 modulo 7: a shift of it", 3, 7, 4, 5, 0);
+        multipliers(sentence + "3 4 6 modulo 7: a shift without 0", 3, 7, 3, 4, 6);
         multipliers(sentence + "24 of 24", 8, 24, row());
         multipliers(sentence + "24 of 25", 20, 25, row());
         multipliers(sentence + "24 in a row modulo 1000", 2, 1000, row());
@@ -150,6 +152,33 @@ public final class FormsEdgesTest {
             pairs[i] = i / 2 * 60 + i % 2 * 7;
         }
         canonical(sentence + "twelve pairs modulo 720", 720, pairs, firstForm(720, pairs));
+    }
+
+    /** A set's shifts and reflections have its form, wherever its marks wrap around; the form is no reflection of itself. */
+    private static void canonicalOfEveryTurn() {
+        int[] form = row();
+        form[23] = 24;
+        everyTurn(1000, form);
+        everyTurn(984, form);
+        everyTurn(49, form);
+        int[] runs = Scene.steps(24, 0, 1);
+        for (int i = 12; i < 24; i++) {
+            runs[i] = i == 23 ? 26 : i + 1;
+        }
+        everyTurn(997, runs);
+        everyTurn(1000, runs);
+        everyTurn(999, Scene.steps(24, 0, 1));
+    }
+
+    private static void everyTurn(int m, int[] form) {
+        for (int mark : form) {
+            for (int t : new int[] {1, m - 1}) {
+                RulerWorkbench x = Scene.modulo(m, form).bench();
+                x.map(0, t, (m - t) * mark % m, 1);
+                x.canonical(1, 2);
+                Check.marks("'the canonical form' of a turn by " + mark + ", " + t + " modulo " + m, x, 2, form);
+            }
+        }
     }
 
     private static void canonicalRefused() {

@@ -77,7 +77,8 @@ final class Scene {
         return x;
     }
 
-    private static String outcome(RulerWorkbench x, Call call) {
+    /** The answer, or the name of the exception. */
+    static String outcome(RulerWorkbench x, Call call) {
         try {
             return String.valueOf(call.on(x));
         } catch (RuntimeException e) {
@@ -94,7 +95,7 @@ final class Scene {
     }
 
     /** The sets and the modulus; this spends the object, as the modulus is told by setting another one. */
-    private static String stateText(RulerWorkbench x) {
+    static String stateText(RulerWorkbench x) {
         StringBuilder text = new StringBuilder();
         for (int set = 0; set < 4; set++) {
             text.append(setText(x, set)).append(" ");

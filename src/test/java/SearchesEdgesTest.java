@@ -40,27 +40,37 @@ public final class SearchesEdgesTest {
         Scene.busy().makes(sentence + "4", 4, x -> x.sparse(4, 0), 0, 0, 1, 2, 4);
         Scene.busy().makes(sentence + "6", 4, x -> x.sparse(6, 0), 0, 0, 1, 4, 6);
         Scene.busy().makes(sentence + "9", 5, x -> x.sparse(9, 0), 0, 0, 1, 2, 6, 9);
-        Scene.busy().saves(sentence + "19", 8, x -> x.sparse(19, 0));
-        Scene.busy().makes(sentence + "20", 8, x -> x.sparse(20, 0), 0, firstSparse(20, 8));
+        for (int n = 1; n <= 20; n++) {
+            int length = n;
+            int[] due = firstSparse(n);
+            Scene.busy().makes(sentence + n, due.length, x -> x.sparse(length, 0), 0, due);
+        }
         Scene.busy().leavesModulus("the modulus stays", 13, x -> x.sparse(20, 0));
     }
 
-    /** Looks at all sets of so many marks, in lexicographic order; a bit i of marks is the mark n - i. */
-    private static int[] firstSparse(int n, int count) {
-        for (int marks = (1 << n + 1) - 1; marks > 0; marks--) {
-            if (Integer.bitCount(marks) == count && (marks & 1) == 1 && marks >> n == 1 && isComplete(marks, n)) {
-                int[] due = new int[count];
-                int found = 0;
-                for (int a = 0; a <= n; a++) {
-                    if ((marks >> n - a & 1) == 1) {
-                        due[found] = a;
-                        found++;
-                    }
+    /** Looks at all sets of two marks, of three and so on, each time in lexicographic order. */
+    private static int[] firstSparse(int n) {
+        for (int count = 2; count <= n + 1; count++) {
+            // Bit i is the mark n - i, so that the greater number is the set that comes first.
+            for (int marks = (1 << n + 1) - 1; marks >> n == 1; marks -= 2) {
+                if (Integer.bitCount(marks) == count && isComplete(marks, n)) {
+                    return marksOf(marks, n, count);
                 }
-                return due;
             }
         }
         return new int[0];
+    }
+
+    private static int[] marksOf(int bits, int n, int count) {
+        int[] marks = new int[count];
+        int found = 0;
+        for (int a = 0; a <= n; a++) {
+            if ((bits >> n - a & 1) == 1) {
+                marks[found] = a;
+                found++;
+            }
+        }
+        return marks;
     }
 
     private static boolean isComplete(int marks, int n) {
