@@ -11,6 +11,7 @@ public final class UndoEdgesTest {
         notUndoable();
         undoIsNotUndone();
         saveAfterUndo();
+        lastCall();
         digestOfStates();
         digestOfMarks();
         digestAtTheModulus();
@@ -202,6 +203,21 @@ public final class UndoEdgesTest {
             Check.same(sentence + n, x.undo(), Math.min(n, 3));
             Check.marks(sentence + n, x, 1, 6);
         }
+    }
+
+    /** 'An object is used for at most 512 calls': the last of them are as good as the first ones. */
+    private static void lastCall() {
+        RulerWorkbench x = new RulerWorkbench();
+        for (int call = 1; call <= 506; call += 2) {
+            Check.same("call " + call + ": add", x.add(0, call), 0);
+            Check.same("call " + (call + 1) + ": clear", x.clear(0), 1);
+        }
+        Check.same("call 507: undo", x.undo(), 3);
+        Check.same("call 508: mark", x.mark(0, 0), 505);
+        Check.same("call 509: undo", x.undo(), 2);
+        Check.same("call 510: undo", x.undo(), 1);
+        Check.same("call 511: mark", x.mark(0, 0), 503);
+        Check.same("call 512: undo", x.undo(), 0);
     }
 
     /** The document's formula over numbers without an end, and then the 64 bits that a long keeps. */
