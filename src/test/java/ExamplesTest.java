@@ -1,73 +1,30 @@
-/** The five examples of the document's description. */
+/** The five examples of the document's description, in its own words, call by call. */
 public final class ExamplesTest {
+    private static final String[] EXAMPLES = {
+        "add(0, 0) = 0; add(0, 1) = 1; add(0, 4) = 2; add(0, 6) = 3; isRuler(0) = true; completeUpTo(0) = 6; "
+            + "setModulus(13) = 31; index(0) = 1; multipliers(0) = 3; complement(0, 1) = 9; index(1) = 6",
+        "optimal(5, 0) = 11; mark(0, 1) = 1; mark(0, 4) = 11; isRuler(0) = true; sparse(6, 1) = 4; size(1) = 4; "
+            + "completeUpTo(1) = 6",
+        "firstDifferenceSet(7, 3, 0) = 1; mark(0, 1) = 1; mark(0, 2) = 3; firstDifferenceSet(10, 4, 1) = -1; "
+            + "size(1) = 0; index(0) = 1; canonical(0, 2) = 3",
+        "add(0, 3) = 0; add(0, 3) = throws IllegalStateException; add(4, 0) = throws IndexOutOfBoundsException; "
+            + "extend(1, 5) = 12; mark(1, 4) = 12; ruzsa(7, 2, 0) = throws IllegalArgumentException; undo() = 1",
+        "add(0, 0) = 0; add(0, 2) = 1; add(0, 4) = 2; isRuler(0) = false; multiplicity(0, 2) = 2; "
+            + "differences(0) = 2; isFamily(1) = false; extend(0, 5) = throws IllegalStateException; "
+            + "remove(0, 4) = 2; remove(0, 4) = throws IllegalStateException"};
+    private static final int CALLS = 42;
+
     public static void main(String[] args) {
-        perfectRuler();
-        optimalAndSparse();
-        firstDifferenceSets();
-        exceptions();
-        noRuler();
+        int calls = 0;
+        for (int i = 0; i < EXAMPLES.length; i++) {
+            RulerWorkbench x = new RulerWorkbench();
+            for (String row : EXAMPLES[i].split("; ")) {
+                String[] parts = row.split(" = ");
+                Check.text("example " + (i + 1) + ": " + parts[0], Script.answer(x, parts[0]), parts[1]);
+                calls++;
+            }
+        }
+        Check.same("the examples' calls", calls, CALLS);
         Check.end("ExamplesTest");
-    }
-
-    private static void perfectRuler() {
-        RulerWorkbench x = new RulerWorkbench();
-        Check.same("1: add", x.add(0, 0), 0);
-        Check.same("1: add", x.add(0, 1), 1);
-        Check.same("1: add", x.add(0, 4), 2);
-        Check.same("1: add", x.add(0, 6), 3);
-        Check.yes("1: isRuler", x.isRuler(0));
-        Check.same("1: completeUpTo", x.completeUpTo(0), 6);
-        Check.same("1: setModulus", x.setModulus(13), 31);
-        Check.same("1: index", x.index(0), 1);
-        Check.same("1: multipliers", x.multipliers(0), 3);
-        Check.same("1: complement", x.complement(0, 1), 9);
-        Check.same("1: index", x.index(1), 6);
-    }
-
-    private static void optimalAndSparse() {
-        RulerWorkbench x = new RulerWorkbench();
-        Check.same("2: optimal", x.optimal(5, 0), 11);
-        Check.same("2: mark", x.mark(0, 1), 1);
-        Check.same("2: mark", x.mark(0, 4), 11);
-        Check.yes("2: isRuler", x.isRuler(0));
-        Check.same("2: sparse", x.sparse(6, 1), 4);
-        Check.same("2: size", x.size(1), 4);
-        Check.same("2: completeUpTo", x.completeUpTo(1), 6);
-    }
-
-    private static void firstDifferenceSets() {
-        RulerWorkbench x = new RulerWorkbench();
-        Check.same("3: firstDifferenceSet", x.firstDifferenceSet(7, 3, 0), 1);
-        Check.same("3: mark", x.mark(0, 1), 1);
-        Check.same("3: mark", x.mark(0, 2), 3);
-        Check.same("3: firstDifferenceSet", x.firstDifferenceSet(10, 4, 1), -1);
-        Check.same("3: size", x.size(1), 0);
-        Check.same("3: index", x.index(0), 1);
-        Check.same("3: canonical", x.canonical(0, 2), 3);
-    }
-
-    private static void exceptions() {
-        RulerWorkbench x = new RulerWorkbench();
-        Check.same("4: add", x.add(0, 3), 0);
-        Check.state(x, "4: add", () -> x.add(0, 3));
-        Check.index(x, "4: add", () -> x.add(4, 0));
-        Check.same("4: extend", x.extend(1, 5), 12);
-        Check.same("4: mark", x.mark(1, 4), 12);
-        Check.argument(x, "4: ruzsa", () -> x.ruzsa(7, 2, 0));
-        Check.same("4: undo", x.undo(), 1);
-    }
-
-    private static void noRuler() {
-        RulerWorkbench x = new RulerWorkbench();
-        Check.same("5: add", x.add(0, 0), 0);
-        Check.same("5: add", x.add(0, 2), 1);
-        Check.same("5: add", x.add(0, 4), 2);
-        Check.no("5: isRuler", x.isRuler(0));
-        Check.same("5: multiplicity", x.multiplicity(0, 2), 2);
-        Check.same("5: differences", x.differences(0), 2);
-        Check.no("5: isFamily", x.isFamily(1));
-        Check.state(x, "5: extend", () -> x.extend(0, 5));
-        Check.same("5: remove", x.remove(0, 4), 2);
-        Check.state(x, "5: remove", () -> x.remove(0, 4));
     }
 }

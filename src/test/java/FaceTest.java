@@ -49,6 +49,7 @@ public final class FaceTest {
                 Modifier.isPublic(face.getModifiers()) && Modifier.isFinal(face.getModifiers()));
         methods(face);
         fields(face);
+        none(face);
         Constructor<?>[] constructors = face.getDeclaredConstructors();
         Check.same("constructors", constructors.length, 1);
         Check.yes("the constructor is public", Modifier.isPublic(constructors[0].getModifiers()));
@@ -100,6 +101,26 @@ public final class FaceTest {
                         Modifier.isFinal(modifiers) && (field.getType() == int.class || field.getType() == long.class));
             }
         }
+    }
+
+    /** A case label takes only what is a constant for the compiler, too. */
+    private static boolean isNone(int answer) {
+        switch (answer) {
+            case RulerWorkbench.NONE:
+                return true;
+            default:
+                return false;
+        }
+    }
+
+    private static void none(Class<?> face) {
+        Field[] fields = face.getFields();
+        Check.same("public fields", fields.length, 1);
+        Check.text("the public constant", fields.length == 0 ? "none" : fields[0].toString(),
+                "public static final int RulerWorkbench.NONE");
+        Check.same("NONE", RulerWorkbench.NONE, -1);
+        Check.yes("NONE is what a call returns where there is no such value",
+                isNone(new RulerWorkbench().firstDifferenceSet(10, 4, 1)));
     }
 
     private static void inside(Class<?> face) {
